@@ -250,7 +250,7 @@ public final class ThreadedArchive {
         messageCount = kept;
     }
 
-    /** A drop can give back PARENTS that a later message took or barred, so all are set anew. */
+    /** A dropped message may have given or barred PARENTS that a later one gives now, so all are set anew. */
     private void rejoinThreads() {
         threads.clear();
         for (int i = 0; i < messageCount; i++) {
@@ -509,7 +509,6 @@ public final class ThreadedArchive {
         private void begin(int newId) {
             there = true;
             id = newId;
-            referenceCount = 0;
             wordCount = 0;
             leaves = 0;
             tags = 0;
@@ -599,6 +598,7 @@ public final class ThreadedArchive {
         private static final int BODY = 2;
 
         private final Letters letters = new Letters();
+        private final Line decoded = new Line();
 
         private void readDraft(Draft draft, Message message) {
             message.begin(draft.id());
@@ -645,42 +645,36 @@ public final class ThreadedArchive {
             boolean isHex = encoding != null && encoding.length == VALUE_START + 1
                     && encoding.at(VALUE_START) == 'h';
             for (int i = body; i < to; i++) {
-                if (isHex) {
-                    readHexLine(draft.lines[i], message);
-                } else {
-                    readLine(draft.lines[i], 0, message, BODY);
-                }
+                Line text = isHex ? decode(draft.lines[i]) : draft.lines[i];
+                readLine(text, 0, message, BODY);
             }
         }
 
         private void readLine(Line line, int from, Message message, int inField) {
             for (int place = from; place < line.length; place++) {
-                readCharacter(line.at(place), message, inField);
+                int letter = letter(line.at(place));
+                if (letter > 0) {
+                    letters.put(letter);
+                } else {
+                    message.takeWord(letters, inField);
+                }
             }
             message.takeWord(letters, inField);
         }
 
-        private void readHexLine(Line line, Message message) {
+        private Line decode(Line line) {
+            decoded.clear();
             int high = -1;
             for (int place = 0; place < line.length; place++) {
                 int value = hexDigit(line.at(place));
                 if (value >= 0 && high < 0) {
                     high = value;
                 } else if (value >= 0) {
-                    readCharacter(high * 16 + value, message, BODY);
+                    decoded.put((char) (high * 16 + value));
                     high = -1;
                 }
             }
-            message.takeWord(letters, BODY);
-        }
-
-        private void readCharacter(int c, Message message, int inField) {
-            int letter = letter(c);
-            if (letter > 0) {
-                letters.put(letter);
-            } else {
-                message.takeWord(letters, inField);
-            }
+            return decoded;
         }
     }
 

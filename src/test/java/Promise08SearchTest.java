@@ -7,6 +7,7 @@ public final class Promise08SearchTest {
         tellsWhereTheErrorIs();
         limitsTheOpenOnes();
         keepsWhatWasFound();
+        forgetsBadOnes();
         emptiesTheLine();
         Check.end();
     }
@@ -73,6 +74,7 @@ public final class Promise08SearchTest {
         Check.due("12 letters", Check.search(x, "abcdefghijkl"), 1);
         Check.due("11 letters", Check.search(x, "abcdefghijk"), 0);
         Check.due("11 letters and more", Check.search(x, "abcdefghijk*"), 1);
+        Check.due("1 letter and more", Check.search(x, "a*"), 1);
         Check.due("13 letters", Check.search(x, "abcdefghijklz"), 1);
         Check.due("13 letters and more", Check.search(x, "abcdefghijklz*"), 1);
         Check.due("another 12th letter", Check.search(x, "abcdefghijkm"), 0);
@@ -163,6 +165,19 @@ public final class Promise08SearchTest {
         Check.search(x, "zz");
         Check.dueHits("behind a search that finds none", x);
         Check.due("errorAt behind a good search", x.errorAt(), -1);
+    }
+
+    private static void forgetsBadOnes() {
+        ThreadedArchive x = fourMessages();
+        String[] bad = {"!", "zz&", "ab|", "((", "(!", "b:", "t:", "s:x", "!(ab|", "zz zz", "f:ab)", "abc"};
+        for (String query : bad) {
+            Check.search(x, query);
+            Check.search(x, "ab");
+            Check.dueHits("behind " + query, x, 0);
+            Check.search(x, query);
+            Check.search(x, "(t:4)");
+            Check.dueHits("behind " + query, x, 2, 3);
+        }
     }
 
     private static void emptiesTheLine() {

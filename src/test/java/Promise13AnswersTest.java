@@ -37,5 +37,12 @@ public final class Promise13AnswersTest {
         Check.due("ID 0 without a message", x.answers(0), ThreadedArchive.NONE);
         Check.message(x, "i:0");
         Check.due("ID 0 with a message", x.answers(0), 1);
+        x = Check.archiveOf();
+        Check.message(x, "i:0", "r:1");
+        Check.due("a message with ID 0", x.answers(1), 0);
+        Check.message(x, "i:63", "r:0");
+        x.drop(1);
+        Check.message(x, "i:9", "r:1 0");
+        Check.due("by ID 0 without a message", x.answers(2), 0);
     }
 }

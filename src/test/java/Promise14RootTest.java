@@ -74,7 +74,7 @@ public final class Promise14RootTest {
         Check.due("the same one itself", x.root(9), 9);
     }
 
-    /** All 64 IDs in one chain: 12 messages bind five steps each, and four more come from the first. */
+    /** 48 steps: no longer chain can be made of 12 messages with 4 REFERENCES each. */
     private static void goesThroughLongChains() {
         ThreadedArchive x = new ThreadedArchive();
         for (int n = 0; n < 12; n++) {

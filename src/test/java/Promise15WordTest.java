@@ -80,6 +80,11 @@ public final class Promise15WordTest {
             x = Check.archiveOf(header, "", "61ab");
             Check.dueWords("not decoded with " + header, x, 0, "2ab");
         }
+        x = Check.archiveOf("e:h", "", "6f6F206e6E206d6D206b6B206C6c2070 79");
+        Check.dueWords("digits of both kinds", x, 0, "2oo", "2nn", "2mm", "2kk", "2ll", "2py");
+        x = new ThreadedArchive();
+        Check.message(x, "e:h", "i:1", "", "6162");
+        Check.dueWords("e in the first line", x, 0, "2ab");
         x = Check.archiveOf("e:x", "e:h", "", "6162");
         Check.dueWords("the last e counts", x, 0, "2ab");
         x = Check.archiveOf("e:h", "e:x", "", "61ab");

@@ -6,6 +6,7 @@ public final class Promise17CountTest {
         countsLeaves();
         countsNestedLeaves();
         stopsAtDepthFour();
+        takesFullDrafts();
         refusesWrongQuestions();
         Check.end();
     }
@@ -54,6 +55,8 @@ public final class Promise17CountTest {
         Check.due("long words are alike", x.count(5), 6);
         x.drop(0);
         Check.due("codes without the first message", x.count(5), 4);
+        x.drop(2);
+        Check.due("codes without the last message", x.count(5), 3);
     }
 
     private static void dueLeaves(String what, int leaves, String... lines) {
@@ -84,6 +87,9 @@ public final class Promise17CountTest {
         dueLeaves("the boundary -", 2, "m:-", "", "--", "--", "--.", "--");
         dueLeaves("the boundary :", 2, "m::", "", "-:", "-:", "-:.", "-:");
         dueLeaves("the boundary blank", 2, "m: ", "", "- ", "- ");
+        ThreadedArchive first = new ThreadedArchive();
+        Check.message(first, "m:x", "i:1", "", "-x", "-x");
+        Check.due("m in the first line", first.count(6), 2);
         ThreadedArchive x = Check.archiveOf("m:x", "e:h", "", "before", "-x", "no header", "", "61", "-x", "e:h", "",
                 "61", "-x", "gone", "-x", "", "-x.x", "last", "-x.", "behind", "-x", "", "behind");
         Check.due("five parts", x.count(6), 4);
@@ -110,6 +116,24 @@ public final class Promise17CountTest {
                 "-d", "p", "-c", "m:d", "e:h", "", "-d", "62");
         Check.due("depth four is no multi", x.count(6), 2);
         Check.dueWords("depth four is no multi", x, 0, "2d", "2q", "2d", "2p", "2b");
+    }
+
+    private static void takesFullDrafts() {
+        ThreadedArchive x = new ThreadedArchive();
+        for (int n = 0; n < 30; n++) {
+            Check.line(x, n == 29 ? "i:1" : "a");
+        }
+        Check.due("30 lines without an empty one", x.add(), 0);
+        Check.due("its leaves", x.count(6), 1);
+        x = new ThreadedArchive();
+        Check.line(x, "i:1");
+        Check.line(x, "m:x");
+        Check.line(x, "");
+        for (int n = 3; n < 30; n++) {
+            Check.line(x, "-x");
+        }
+        Check.due("27 cuts", x.add(), 0);
+        Check.due("27 leaves", x.count(6), 27);
     }
 
     private static void refusesWrongQuestions() {
