@@ -14,6 +14,7 @@ public final class ModelTest {
     private static final String[] REFERENCE_HEADERS = {"r:", "r: 1", "r:1  2", "r:64", "r:1 2 3 4 5", "r:1 ", "r:x"};
     private static final String[] ID_HEADERS = {"i:", "i:64", "i:x", "i:1 ", "I:1", "i:001"};
     private static final String[] ENCODINGS = {"e:h", "e:h", "e:h", "e:H", "e:hh", "e:"};
+    private static final String[] HEX_PAIRS = {"61", "62", "4A", "4f", "20", "0a"};
     private static final String BOUNDARIES = "xy.-:h";
     private static final String QUERY_CHARACTERS = "abz()!&|*:sft07 A8`{";
 
@@ -173,7 +174,7 @@ public final class ModelTest {
         StringBuilder text = new StringBuilder();
         int number = random.nextInt(8);
         for (int i = 0; i < number; i++) {
-            text.append(random.nextInt(4) == 0 ? "" + oneOf("6g :G`@/") : oneOf(new String[] {"61", "62", "4A", "20", "0a"}));
+            text.append(random.nextInt(4) == 0 ? "" + oneOf("6g :G`@/") : oneOf(HEX_PAIRS));
         }
         return text.toString();
     }
