@@ -1,14 +1,39 @@
 /** What the tests share: short ways to type, and the tally of wrong answers. */
 final class Check {
+    /** Far above what any test takes: every call of the program must end. */
+    private static final long LONGEST_TEST_MILLIS = 300_000;
+
     private static int wrong = 0;
+    private static String sentence = "";
+
+    static {
+        Thread watch = new Thread(Check::endLateTest);
+        watch.setDaemon(true);
+        watch.start();
+    }
 
     private Check() {
+    }
+
+    private static void endLateTest() {
+        try {
+            Thread.sleep(LONGEST_TEST_MILLIS);
+        } catch (InterruptedException e) {
+            return;
+        }
+        System.out.println(sentence + "a call does not end");
+        Runtime.getRuntime().halt(1);
+    }
+
+    /** The sentence of the document that the checks from here on are about; it is told with each wrong answer. */
+    static void sentence(String words) {
+        sentence = "\"" + words + "\": ";
     }
 
     static void due(String what, long got, long want) {
         if (got != want) {
             wrong++;
-            System.out.println(what + " answered " + got + ", due is " + want);
+            System.out.println(sentence + what + " answered " + got + ", due is " + want);
         }
     }
 
@@ -40,6 +65,22 @@ final class Check {
             line(x, line);
         }
         return x.add();
+    }
+
+    /** Enters empty lines until there are this many. */
+    static void emptyLines(ThreadedArchive x, int lines) {
+        for (int n = x.count(2); n < lines; n++) {
+            x.enter();
+        }
+    }
+
+    /** An archive with messages 0 .. number - 1, whose IDs are their numbers. */
+    static ThreadedArchive archiveOfMany(int number) {
+        ThreadedArchive x = new ThreadedArchive();
+        for (int n = 0; n < number; n++) {
+            due("add of message " + n, message(x, "i:" + n), n);
+        }
+        return x;
     }
 
     static int search(ThreadedArchive x, String query) {
