@@ -13,6 +13,7 @@ public final class EdgeFoundTest {
         orderOfAndOrNot();
         badSearchKeepsWhatWasFound();
         emptySearchKeepsWhatWasFound();
+        badSearchLeavesNothingBehind();
         numbersStayFound();
         holdsNow();
         hitsHaveTwoEnds();
@@ -50,14 +51,15 @@ public final class EdgeFoundTest {
         ThreadedArchive x = Check.archiveOf("s:abc");
         Check.message(x, "i:2", "s:ab");
         Check.message(x, "i:3", "s:a bab");
-        Check.message(x, "i:4", "s:z zzzzzzzzzzzz");
+        Check.message(x, "i:4", "s:zzzzzzzzzzzz");
         dueFound(x, "a*", 0, 1, 2);
         dueFound(x, "ab*", 0, 1);
         dueFound(x, "abc*", 0);
         dueFound(x, "abcd*");
         dueFound(x, "b*", 2);
         dueFound(x, "c*");
-        dueFound(x, "zz*", 3);
+        dueFound(x, "z*", 3);
+        dueFound(x, "z");
         dueFound(x, "zzzzzzzzzzz*", 3);
         dueFound(x, "zzzzzzzzzzzz*", 3);
         dueFound(x, "zzzzzzzzzzzzz*", 3);
@@ -175,6 +177,22 @@ public final class EdgeFoundTest {
         x = Check.archiveOfMany(2);
         Check.due("search of an empty line at first", x.search(), ThreadedArchive.BAD);
         Check.dueHits("behind it at first", x);
+    }
+
+    private static void badSearchLeavesNothingBehind() {
+        Check.sentence("A refused call (an answer below 0) changes nothing");
+        String[] bad = {"!", "!!!", "(!", "((!(", "p&", "zz&", "p|", "(p|", "!(p&!", "s:", "!t:", "q", "!q)", "f:q!"};
+        for (String query : bad) {
+            ThreadedArchive x = Check.archiveOf("s:p");
+            Check.message(x, "i:2", "s:q");
+            Check.search(x, query);
+            dueFound(x, "p", 0);
+            Check.search(x, query);
+            dueFound(x, "((((!p))))", 1);
+            Check.type(x, query);
+            x.wipe();
+            dueFound(x, "q|zz", 1);
+        }
     }
 
     private static void numbersStayFound() {

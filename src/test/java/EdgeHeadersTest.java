@@ -2,6 +2,8 @@
 public final class EdgeHeadersTest {
     public static void main(String[] args) {
         headersStandBeforeTheFirstEmptyLine();
+        headersMayStandFirst();
+        headersMayStandLast();
         allLinesIfThereIsNone();
         aBlankIsNotEmpty();
         secondCharacterIsAColon();
@@ -40,6 +42,36 @@ public final class EdgeHeadersTest {
         dueWords(words("0a", "2s", "2b"), "s:a", "", "s:b");
         dueWords(words("1a", "2f", "2b"), "f:a", "", "f:b");
         dueWords(words("2f", "2s"), "", "f:", "", "s:");
+    }
+
+    private static void headersMayStandFirst() {
+        Check.sentence("the lines before its first empty line");
+        ThreadedArchive x = new ThreadedArchive();
+        Check.message(x, "s:a", "i:1", "");
+        Check.message(x, "f:b", "i:2", "");
+        Check.message(x, "r:50", "i:3", "");
+        Check.message(x, "m:x", "i:4", "", "-x", "-x");
+        Check.message(x, "e:h", "i:5", "", "4a");
+        dueOneOfEach("in the first line", x);
+    }
+
+    private static void headersMayStandLast() {
+        Check.sentence("the lines before its first empty line");
+        ThreadedArchive x = new ThreadedArchive();
+        Check.message(x, "i:1", "s:a", "");
+        Check.message(x, "i:2", "f:b", "");
+        Check.message(x, "i:3", "r:50", "");
+        Check.message(x, "i:4", "m:x", "", "-x", "-x");
+        Check.message(x, "i:5", "e:h", "", "4a");
+        dueOneOfEach("in the line before the empty one", x);
+    }
+
+    private static void dueOneOfEach(String where, ThreadedArchive x) {
+        Check.dueWords("s " + where, x, 0, "0a");
+        Check.dueWords("f " + where, x, 1, "1b");
+        Check.due("r " + where, x.root(3), 50);
+        Check.due("m " + where, x.count(9), 2);
+        Check.dueWords("e " + where, x, 4, "2j");
     }
 
     private static void allLinesIfThereIsNone() {

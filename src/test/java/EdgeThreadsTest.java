@@ -17,6 +17,7 @@ public final class EdgeThreadsTest {
         longestChain();
         rootOutOfRange();
         answersTheFirstWithAMessage();
+        answersByIdsWithoutMessages();
         answersNone();
         answersOfNoSuchMessage();
         Check.end();
@@ -235,6 +236,20 @@ public final class EdgeThreadsTest {
         x.drop(3);
         Check.due("answers(4) without the one between", x.answers(4), 2);
         Check.due("answers(0) without it", x.answers(0), 4);
+    }
+
+    private static void answersByIdsWithoutMessages() {
+        Check.sentence("the first ID with a message that is reached");
+        ThreadedArchive x = Check.archiveOf("r:5 0 63");
+        Check.due("no message yet", x.answers(0), ThreadedArchive.NONE);
+        Check.message(x, "i:5");
+        Check.due("by 63 and 0", x.answers(0), 1);
+        Check.message(x, "i:0");
+        Check.due("by 63", x.answers(0), 2);
+        Check.due("answers of 0", x.answers(2), 1);
+        Check.message(x, "i:63");
+        Check.due("at once", x.answers(0), 3);
+        Check.due("answers of 63", x.answers(3), 2);
     }
 
     private static void answersNone() {
