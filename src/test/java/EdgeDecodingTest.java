@@ -109,6 +109,7 @@ public final class EdgeDecodingTest {
         dueWords("a b", "", "6a1b62");
         dueWords("", "", "616263");
         dueWords("abcdef", "", "abcdef");
-        Check.dueWords("headers are not decoded", Check.archiveOf("e:h", "s:6a", "f:6b", "", "6c"), 0, "0a", "1b", "2l");
+        ThreadedArchive x = Check.archiveOf("e:h", "s:6a", "f:6b", "", "6c");
+        Check.dueWords("headers are not decoded", x, 0, "0a", "1b", "2l");
     }
 }

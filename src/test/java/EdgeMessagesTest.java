@@ -8,6 +8,7 @@ public final class EdgeMessagesTest {
         droppedMessageIsNotThere();
         asIfItHadNeverBeenAdded();
         dropOfTheLastMessage();
+        addedAndDroppedManyTimes();
         tagsHaveTwoEnds();
         noSuchMessageToTag();
         tagIsSetOrNoMore();
@@ -102,6 +103,17 @@ public final class EdgeMessagesTest {
             Check.due("root(" + id + ")", x.root(id), id);
         }
         Check.due("search", Check.search(x, "!b"), 0);
+    }
+
+    private static void addedAndDroppedManyTimes() {
+        Check.sentence("as if it had never been added");
+        ThreadedArchive x = Check.archiveOfMany(11);
+        for (int n = 0; n < 50; n++) {
+            Check.due("add number " + n, Check.message(x, "i:" + (12 + n)), 11);
+            Check.due("drop number " + n, x.drop(11), ThreadedArchive.OK);
+        }
+        Check.due("messages", x.count(0), 11);
+        Check.due("roots", x.count(4), 11);
     }
 
     private static void tagsHaveTwoEnds() {

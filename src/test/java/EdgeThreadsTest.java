@@ -219,7 +219,8 @@ public final class EdgeThreadsTest {
     }
 
     private static void answersTheFirstWithAMessage() {
-        Check.sentence("the first ID with a message that is reached from its own ID by going to the PARENT once or more");
+        Check.sentence("the first ID with a message that is reached from its own ID by going to the PARENT once"
+                + " or more");
         ThreadedArchive x = Check.archiveOf("r:5 6 7 8");
         Check.message(x, "i:5");
         Check.due("the fourth one", x.answers(0), 1);

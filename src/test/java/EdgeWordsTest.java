@@ -93,7 +93,7 @@ public final class EdgeWordsTest {
     }
 
     private static void fieldsComeInOrder() {
-        Check.sentence("those of its header s (field 0), then those of its header f (field 1), then those of its LEAVES");
+        Check.sentence("those of its header s (field 0), then those of its header f (field 1), then");
         ThreadedArchive x = new ThreadedArchive();
         Check.message(x, "f:b", "i:1", "s:a", "", "c");
         Check.dueWords("f before s", x, 0, "0a", "1b", "2c");
@@ -137,8 +137,8 @@ public final class EdgeWordsTest {
     private static void fiftiethInALeaf() {
         Check.sentence("the first 50 of all these");
         String twenty = NINETEEN + " a";
-        ThreadedArchive x = Check.archiveOf("m:x", "", "-x", "", twenty, twenty, "-x", "", "b b b b b b b b b", "-x", "",
-                "c", "d", "-x", "e:h", "", "65");
+        ThreadedArchive x = Check.archiveOf("m:x", "", "-x", "", twenty, twenty, "-x", "", "b b b b b b b b b", "-x",
+                "", "c", "d", "-x", "e:h", "", "65");
         Check.due("word 39", x.word(0, 39), 1);
         Check.due("word 48", x.word(0, 48), 2);
         Check.due("word 49", x.word(0, 49), 3);
